@@ -56,7 +56,8 @@ public final class BufferTest {
         Object[][] cases = {
             {"abcdef", 6, 1}, {"abcdef", 5, -1}, {"abcdefg", 7, -1}, {"abcdeg", 6, -1}, {"bbcdef", 6, -1},
             {"plate", 5, 2}, {" k", 2, -1}, {"k ", 2, -1}, {"K", 1, -1}, {"\u0000k", 2, -1},
-            {"\u0000\u0000\u0000\u0000\u0000k", 6, -1}, {"\u00ebk", 2, -1}, {"k", 1, 0}
+            {"\u0000\u0000\u0000\u0000\u0000k", 6, -1}, {"\u00ebk", 2, -1}, {"\u0000\u0000\u0000\u0000\u0000\u0000\u0001k", 8, -1}, {"abcdfe", 6, -1}, {"bacdef", 6, -1},
+            {"fedcba", 6, -1}, {"k", 1, 0}
         };
         for (Object[] one : cases) {
             x.load(0);

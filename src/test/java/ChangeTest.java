@@ -36,12 +36,15 @@ public final class ChangeTest {
         }
         String got = tones;
         Check.same("the tones", "0 0 0 0 0 50 50 0 0 50 50 0 ", () -> got);
+        Check.same("a column", 6, () -> x.paint(3, 0, 1, 2, 1));
+        Check.same("all of it", 7, () -> x.paint(3, 0, 1, 3, 1));
+        Check.same("none of it", 4, () -> x.paint(3, 0, 1, 3, 0));
         Check.same("a row of it", 6, () -> x.paint(1, 1, 2, 1, 51));
         Check.same("one cell", 7, () -> x.paint(3, 2, 1, 1, 1));
         Check.same("all", 24, () -> x.paint(0, 0, 4, 3, 100));
         Check.same("nothing else", 24, () -> x.paint(0, 0, 4, 3, 100));
         Check.same("none", 0, () -> x.paint(0, 0, 4, 3, 0));
-        Check.same("changes", 6, x::undo);
+        Check.same("changes", 7, x::undo);
     }
 
     private static void paintsOnlyInside() {

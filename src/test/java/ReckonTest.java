@@ -101,6 +101,9 @@ public final class ReckonTest {
         Check.same("three, b", due(three, 1), () -> three.bestTurn(1));
         Check.same("three, c", due(three, 2), () -> three.bestTurn(2));
         Check.same("nothing changed", 0, () -> three.undo());
+        TonePlates great = Check.loaded("picture 3 1;plate a 1 0 line;plate b 3 3 line;");
+        Check.same("the greatest turn", 33, () -> great.bestTurn(0));
+        Check.same("of two with the same moire, the smaller one", due(great, 1), () -> great.bestTurn(1));
         TonePlates four = Check.loaded("picture 3 1;plate a 3 3 line;plate b 1 2 line;plate c 2 1 line;plate d 0 3 line;");
         for (int i = 0; i < 4; i++) {
             int plate = i;
@@ -111,12 +114,13 @@ public final class ReckonTest {
     /** Tries all turns. */
     private static int due(TonePlates x, int plate) {
         int best = 0;
+        int plates = x.state(2);
         double least = Double.MAX_VALUE;
         for (int turn = 1; turn <= 33; turn++) {
             if (turn % 10 <= 3) {
                 x.turn(plate, turn / 10, turn % 10);
                 double greatest = 0;
-                for (int other = 0; other < x.state(2); other++) {
+                for (int other = 0; other < plates; other++) {
                     greatest = Math.max(greatest, x.moire(plate, other));
                 }
                 if (greatest < least) {

@@ -9,6 +9,7 @@ public final class SetupTest {
     public static void main(String[] args) {
         lengthsOfLoad();
         replacesAllData();
+        leavesNothingOfEarlierData();
         anErrorChangesNothing();
         errorOffsets();
         tokens();
@@ -80,8 +81,29 @@ public final class SetupTest {
         Check.same("tones with the curve", 14, () -> x.plate(0, 10));
         Check.same("the same without", 1, () -> Check.load(x, "picture 2 1;tones 55;plate k 1 0 line;"));
         Check.same("tones without a curve", 110, () -> x.plate(0, 10));
+        Check.same("tones and limit again", 0, () -> Check.load(x, "picture 1 1;tones 1;limit 2;"));
+        Check.same("tones and limit once more", 0, () -> Check.load(x, "picture 1 1;limit 3;tones 1;"));
         Check.same("no plates", 0, () -> Check.load(x, "picture 16 12;"));
         Check.same("cells", 192, () -> x.state(5));
+    }
+
+    /** Whatever an object did before, a setup text gives what it gives on a new one. */
+    private static void leavesNothingOfEarlierData() {
+        String text = "picture 8 8;plate k 1 0 line;plate c 1 0 line;";
+        long due = Check.loaded(text).checksum();
+        TonePlates x = Check.loaded("picture 8 8;plate a 2 1 line curve 99;plate b 1 1 round curve 99;limit 1;"
+                + "ink a 3;ink b 4;");
+        x.shift(0, 7, 8);
+        x.shift(1, 9, 10);
+        x.paint(0, 0, 8, 8, 50);
+        for (int i = 0; i < 20; i++) {
+            x.paint(i % 8, i / 8, 1, 1, 50);
+            x.clean(i % 2);
+        }
+        for (int i = 0; i < 12; i++) {
+            Check.same("load " + i, 2, () -> Check.load(x, text));
+            Check.same("checksum of load " + i, due, x::checksum);
+        }
     }
 
     private static void anErrorChangesNothing() {

@@ -12,6 +12,7 @@ public final class StateTest {
         reasons();
         wrongInputs();
         ranksOfShapes();
+        ranksAfterTurns();
         ranksOfAShiftedPlate();
         thresholds();
         curves();
@@ -223,6 +224,29 @@ public final class StateTest {
         ranksAre(x, 3, 1, 10, 2, 11, 3, 10);
     }
 
+    /** From any screen and shape to any other, the ranks are those of a new object. */
+    private static void ranksAfterTurns() {
+        for (int i = 0; i < 60; i++) {
+            int a = (i % 15 + 1) / 4;
+            int b = (i % 15 + 1) % 4;
+            TonePlates x = Check.loaded("picture 16 12;plate k " + b + " " + a + " line;");
+            x.plate(0, 7);
+            if (i % 4 != 1) {
+                x.turn(0, a, 3);
+                x.shape(0, i % 4);
+                x.plate(0, 7);
+            }
+            x.turn(0, a, b);
+            TonePlates fresh = Check.loaded("picture 16 12;plate k " + a + " " + b + " line;");
+            fresh.shape(0, x.plate(0, 3));
+            for (int j = 0; j < 192; j++) {
+                int at = j;
+                Check.same("rank " + at + " of turn " + i, fresh.cell(0, at % 16, at / 16, 0),
+                        () -> x.cell(0, at % 16, at / 16, 0));
+            }
+        }
+    }
+
     private static void ranksOfAShiftedPlate() {
         TonePlates x = Check.loaded("picture 5 2;plate l 1 2 line;");
         ranksAre(x, 0, 0, 20, 10, 0, 1, 11);
@@ -244,6 +268,9 @@ public final class StateTest {
         for (int[] tone : tones) {
             Check.same("dots with tone " + tone[0], tone[1], () -> x.paint(0, 0, 2, 2, tone[0]));
         }
+        TonePlates z = Check.loaded("picture 6 2;plate k 2 3 round;");
+        Check.same("a rank of 157 of 169, tone 92", 2, () -> z.paint(5, 1, 1, 1, 92) + z.why(0, 5, 1));
+        Check.same("a rank of 157 of 169, tone 93", 1, () -> z.paint(5, 1, 1, 1, 93) + z.why(0, 5, 1));
         TonePlates y = Check.loaded("picture 16 12;plate k 3 3 round;");
         Check.same("tone 100 on the greatest screen", 192, () -> y.paint(0, 0, 16, 12, 100));
         Check.same("tone 0", 0, () -> y.paint(0, 0, 16, 12, 0));
