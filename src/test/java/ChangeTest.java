@@ -16,6 +16,7 @@ public final class ChangeTest {
         cleaningStays();
         fills();
         presses();
+        fullSize();
         noPlatesAtFirst();
         Check.end("ChangeTest");
     }
@@ -247,6 +248,36 @@ public final class ChangeTest {
         TonePlates exact = Check.loaded("picture 4 1;tones 1111;plate a 1 0 line;ink a 8;");
         Check.same("to the last drop", 2, () -> exact.press(3));
         Check.same("dry", 0, () -> exact.plate(0, 6));
+    }
+
+    private static void fullSize() {
+        String row = " 1234567890123456";
+        TonePlates x = Check.loaded("picture 16 12;tones" + row.repeat(12) + ";plate a 1 0 line;plate b 1 0 line;"
+                + "plate c 1 0 line;plate d 1 0 line curve (x+y)/(x-14);");
+        Check.same("dots of a", 180, () -> x.plate(0, 7));
+        // 15 / 1 to 26 / 1 in the last column, and a spot in none of them
+        Check.same("dots of d", 12, () -> x.plate(3, 7));
+        Check.same("the last cell", 15, () -> x.inks(15, 11));
+        Check.same("its tone on d", 26, () -> x.cell(3, 15, 11, 1));
+        Check.same("copies", 5, x::copies);
+        Check.same("press", 5, () -> x.press(9));
+        Check.same("ink of d", 940, () -> x.plate(3, 6));
+        Check.same("a checkerboard", 96 * 3 + 12, () -> checkered(x));
+        Check.same("clean", 96, () -> x.clean(0));
+        Check.same("why", 1, () -> x.why(0, 15, 11));
+        Check.same("dirty", 96, () -> x.dirty(0));
+        Check.same("paint", 576 + 12, () -> x.paint(0, 0, 16, 12, 100));
+        Check.same("no spot", 0, () -> x.clean(3));
+    }
+
+    private static int checkered(TonePlates x) {
+        x.paint(0, 0, 16, 12, 0);
+        for (int i = 0; i < 192; i++) {
+            if ((i % 16 + i / 16) % 2 == 0) {
+                x.paint(i % 16, i / 16, 1, 1, 60);
+            }
+        }
+        return x.state(4);
     }
 
     private static void noPlatesAtFirst() {

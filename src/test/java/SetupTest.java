@@ -96,10 +96,14 @@ public final class SetupTest {
         x.shift(0, 7, 8);
         x.shift(1, 9, 10);
         x.paint(0, 0, 8, 8, 50);
+        x.turn(0, 1, 0);
+        Check.load(x, "picture 8 8;plate a 1 0 line curve tone;plate b 1 0 line curve tone;");
         for (int i = 0; i < 20; i++) {
+            x.paint(0, 0, 8, 8, 0);
             x.paint(i % 8, i / 8, 1, 1, 50);
             x.clean(i % 2);
         }
+        Check.same("cleaned", 20, () -> x.state(8));
         for (int i = 0; i < 12; i++) {
             Check.same("load " + i, 2, () -> Check.load(x, text));
             Check.same("checksum of load " + i, due, x::checksum);
