@@ -51,8 +51,8 @@ public final class FaceTest {
         Check.same("parameters of the constructor", 0, () -> constructors[0].getParameterCount());
         Check.same("the class is final", true, () -> Modifier.isFinal(TonePlates.class.getModifiers()));
         for (Class<?> inside : TonePlates.class.getDeclaredClasses()) {
-            Check.same(inside.getName() + " is private and static", true,
-                    () -> Modifier.isPrivate(inside.getModifiers()) && Modifier.isStatic(inside.getModifiers()));
+            Check.same(inside.getName() + " can be seen", false,
+                    () -> Modifier.isPublic(inside.getModifiers()) || Modifier.isProtected(inside.getModifiers()));
         }
         noPrivateMethodHasAPublicName();
         Check.end("FaceTest");
@@ -97,8 +97,8 @@ public final class FaceTest {
         }
         for (Class<?> inside : all) {
             for (Method method : inside.getDeclaredMethods()) {
-                Check.same(inside.getName() + "." + method.getName() + " has the name of a public method", false,
-                        () -> names.contains(method.getName()));
+                Check.same(inside.getName() + "." + method.getName() + ", private, has a public name", false,
+                        () -> Modifier.isPrivate(method.getModifiers()) && names.contains(method.getName()));
             }
         }
         Check.same("methods of TonePlates with a public name", METHODS.length,
