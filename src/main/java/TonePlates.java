@@ -738,8 +738,9 @@ public final class TonePlates {
             }
         }
 
+        /** Neither x nor y may be less than 0. */
         int rankOf(int x, int y) {
-            return ranks[remainder(y, p) * p + remainder(x, p)];
+            return p < 1 ? 0 : ranks[y % p * p + x % p];
         }
 
         private int measureAt(int x, int y) {
