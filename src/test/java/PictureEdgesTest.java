@@ -534,6 +534,10 @@ public final class PictureEdgesTest {
         Check.same("P13: all", 1.0f, () -> x.covered(0));
         TonePlates y = Check.loaded("picture 7 1;tones 1110000;plate k 1 0 line;");
         Check.same("P13: 3 of 7", 3.0f / 7.0f, () -> y.covered(0));
+        TonePlates one = Check.loaded("picture 1 1;tones 1;plate k 0 1 line;");
+        Check.same("P13: one of one", 1.0f, () -> one.covered(0));
+        one.paint(0, 0, 1, 1, 0);
+        Check.same("P13: none of one", 0.0f, () -> one.covered(0));
     }
 
     /** "0.0 if e is 0" */
